@@ -1,80 +1,76 @@
 /** Compares answers with those that are due, prints each wrong one, and ends the test. */
 final class Due {
-    static final int[] NOT_A_CONTEXT = {
-        -1, -2, -3, -4, -5, -8, -65536, -32769, Integer.MIN_VALUE, Integer.MIN_VALUE + 1,
-        4, 5, 6, 7, 8, 9, 15, 16, 32, 256, 260, 65535, 65536, Integer.MAX_VALUE - 1, Integer.MAX_VALUE
-    };
-    static final int[] NOT_A_CELL = {
-        -1, -2, -3, -4, -5, -8, -65536, -32769, Integer.MIN_VALUE, Integer.MIN_VALUE + 1,
-        8, 9, 10, 11, 12, 15, 16, 32, 256, 260, 65535, 65536, Integer.MAX_VALUE - 1, Integer.MAX_VALUE
-    };
-    static final int[] VALUES = {
-        0, 1, 2, 3, 4, 5, 7, 8, 31, 32, 115, 116, 119, 120, 121, 127, 128, 255, 256, 32767, 32768,
-        65531, 65532, 65535, 65536, 65537, 1 << 20, 1 << 30, Integer.MAX_VALUE,
-        -1, -2, -4, -5, -6, -32768, -32769, -65535, -65536, -65537,
-        Integer.MIN_VALUE, Integer.MIN_VALUE + 1
-    };
-
     private static final int MOST_PRINTED = 50;
+    private static String sentence = "";
+    private static int sentences = 0;
     private static int checks = 0;
+    private static int checksBefore = 0;
     private static int wrong = 0;
 
     private Due() {
     }
 
-    static void equal(String call, int got, int want) {
+    /** Begins the test of one sentence of the document; a wrong answer is told under it. */
+    static void sentence(String words) {
+        closeSentence();
+        sentence = words;
+        sentences++;
+    }
+
+    /** The call is told only where its answer is wrong: most of the time goes into words otherwise. */
+    static void equal(int got, int want, String call, Object... parts) {
         checks++;
         if (got != want) {
-            report(call + " answered " + got + ", due is " + want);
+            report(String.format(call, parts) + " answered " + got + ", due is " + want);
         }
     }
 
-    static void within(String call, int got, int least, int most) {
+    static void within(int got, int least, int most, String call, Object... parts) {
         checks++;
         if (got < least || got > most) {
-            report(call + " answered " + got + ", due is " + least + ".." + most);
+            report(String.format(call, parts) + " answered " + got + ", due is " + least + ".." + most);
         }
     }
 
-    static void isTrue(String claim, boolean holds) {
+    static void holds(boolean claim, String words, Object... parts) {
         checks++;
-        if (!holds) {
-            report("does not hold: " + claim);
+        if (!claim) {
+            report("does not hold: " + String.format(words, parts));
         }
     }
 
     /** The eight cells, as the document orders them: A[0]..A[3], N[0]..N[3]. */
-    static void cells(String after, RiceAdapt x, int... want) {
+    static void cells(RiceAdapt x, int[] want, String after, Object... parts) {
         for (int i = 0; i < 8; i++) {
             checks++;
             int got = x.cell(i);
             if (got != want[i]) {
-                report("after " + after + ": cell(" + i + ") answered " + got + ", due is " + want[i]);
+                report("after " + String.format(after, parts) + ": cell(" + i + ") answered " + got
+                    + ", due is " + want[i]);
             }
         }
     }
 
-    /** An object whose context ctx holds the sum a and the count n, 2..8. */
-    static RiceAdapt stateOf(int ctx, int a, int n) {
-        RiceAdapt x = new RiceAdapt();
-        x.update(ctx, a - 4);
-        for (int i = 2; i < n; i++) {
-            x.update(ctx, 0);
-        }
-        return x;
-    }
-
     static void end(String test) {
-        System.out.println(test + ": " + checks + " checks, " + wrong + " wrong");
-        if (wrong != 0 || checks == 0) {
+        closeSentence();
+        System.out.println(test + ": " + sentences + " sentences, " + checks + " checks, " + wrong + " wrong");
+        if (wrong != 0 || sentences == 0) {
             System.exit(1);
         }
+    }
+
+    /** A sentence whose test looked at nothing must not pass for one that holds. */
+    private static void closeSentence() {
+        if (sentences > 0 && checks == checksBefore) {
+            report("nothing was checked");
+        }
+        checksBefore = checks;
     }
 
     private static void report(String what) {
         wrong++;
         if (wrong <= MOST_PRINTED) {
-            System.out.println(what);
+            System.out.println("[" + sentence + "] " + what);
         }
     }
 }

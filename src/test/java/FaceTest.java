@@ -5,41 +5,52 @@ import java.lang.reflect.Modifier;
 import java.util.Set;
 import java.util.TreeSet;
 
-/** The public face: the document's members, and no other that is not private. */
+/** The public face. Other members are a matter of LANGUAGE.md: see LanguageTest. */
 public final class FaceTest {
     public static void main(String[] args) {
-        int kind = RiceAdapt.class.getModifiers();
-        Due.isTrue("the class is public and final", Modifier.isPublic(kind) && Modifier.isFinal(kind));
-        Due.isTrue("the class has no superclass but Object", RiceAdapt.class.getSuperclass() == Object.class);
-        Due.isTrue("the class has no interface", RiceAdapt.class.getInterfaces().length == 0);
-        Due.isTrue("the class has no nested class", RiceAdapt.class.getDeclaredClasses().length == 0);
-        members();
+        theClass();
+        theConstructor();
+        theMethods();
+        noPublicConstants();
         Due.end("FaceTest");
     }
 
-    private static void members() {
+    private static void theClass() {
+        Due.sentence("The public face: public final class RiceAdapt");
+        int kind = RiceAdapt.class.getModifiers();
+        Due.holds(Modifier.isPublic(kind), "the class is public");
+        Due.holds(Modifier.isFinal(kind), "the class is final");
+        Due.holds(RiceAdapt.class.getPackageName().isEmpty(), "the class is in no package");
+    }
+
+    private static void theConstructor() {
+        Due.sentence("Promise 1: the constructor takes no arguments");
         Set<String> found = new TreeSet<>();
-        for (Constructor<?> c : RiceAdapt.class.getDeclaredConstructors()) {
-            if (!Modifier.isPrivate(c.getModifiers())) {
-                found.add(c.toString());
-            }
+        for (Constructor<?> c : RiceAdapt.class.getConstructors()) {
+            found.add(c.toString());
         }
-        for (Method m : RiceAdapt.class.getDeclaredMethods()) {
-            if (!Modifier.isPrivate(m.getModifiers())) {
-                found.add(m.toString());
-            }
+        Due.holds(found.equals(Set.of("public RiceAdapt()")), "the constructors %s are public RiceAdapt()", found);
+    }
+
+    private static void theMethods() {
+        Due.sentence("The public face: k, codeLen, update and cell");
+        Set<String> found = new TreeSet<>();
+        for (Method m : RiceAdapt.class.getMethods()) {
+            found.add(m.toString());
         }
-        for (Field f : RiceAdapt.class.getDeclaredFields()) {
-            if (!Modifier.isPrivate(f.getModifiers())) {
-                found.add(f.toString());
-            }
-        }
-        Set<String> due = new TreeSet<>(Set.of(
-            "public RiceAdapt()",
+        Set<String> due = Set.of(
             "public int RiceAdapt.k(int)",
             "public int RiceAdapt.codeLen(int,int)",
             "public int RiceAdapt.update(int,int)",
-            "public int RiceAdapt.cell(int)"));
-        Due.isTrue("the members that are not private, " + found + ", are " + due, found.equals(due));
+            "public int RiceAdapt.cell(int)");
+        for (String method : due) {
+            Due.holds(found.contains(method), "the class has %s", method);
+        }
+    }
+
+    private static void noPublicConstants() {
+        Due.sentence("What it is: there are no public constants");
+        Field[] found = RiceAdapt.class.getFields();
+        Due.equal(found.length, 0, "the count of public fields");
     }
 }
