@@ -1,11 +1,13 @@
 /** Compares answers with those that are due, prints each wrong one, and ends the test. */
 final class Due {
-    private static final int MOST_PRINTED = 50;
+    /** For each sentence: the first broken one must not hide those after it. */
+    private static final int MOST_PRINTED = 10;
     private static String sentence = "";
     private static int sentences = 0;
     private static int checks = 0;
     private static int checksBefore = 0;
     private static int wrong = 0;
+    private static int wrongBefore = 0;
 
     private Due() {
     }
@@ -65,11 +67,12 @@ final class Due {
             report("nothing was checked");
         }
         checksBefore = checks;
+        wrongBefore = wrong;
     }
 
     private static void report(String what) {
         wrong++;
-        if (wrong <= MOST_PRINTED) {
+        if (wrong - wrongBefore <= MOST_PRINTED) {
             System.out.println("[" + sentence + "] " + what);
         }
     }
