@@ -2,8 +2,7 @@ import java.lang.reflect.Constructor;
 import java.lang.reflect.Field;
 import java.lang.reflect.Method;
 import java.lang.reflect.Modifier;
-import java.util.Set;
-import java.util.TreeSet;
+import java.util.Arrays;
 
 /** The public face. Other members are a matter of LANGUAGE.md: see LanguageTest. */
 public final class FaceTest {
@@ -24,28 +23,29 @@ public final class FaceTest {
     }
 
     private static void theConstructor() {
-        Due.sentence("Promise 1: the constructor takes no arguments");
-        Set<String> found = new TreeSet<>();
-        for (Constructor<?> c : RiceAdapt.class.getConstructors()) {
-            found.add(c.toString());
+        Due.sentence("The public face: public RiceAdapt(); promise 1: the constructor takes no arguments");
+        Constructor<?>[] found = RiceAdapt.class.getConstructors();
+        Due.equal(found.length, 1, "the count of public constructors");
+        for (Constructor<?> one : found) {
+            Due.equal(one.getParameterCount(), 0, "the count of parameters of %s", one);
         }
-        Due.holds(found.equals(Set.of("public RiceAdapt()")), "the constructors %s are public RiceAdapt()", found);
     }
 
     private static void theMethods() {
-        Due.sentence("The public face: k, codeLen, update and cell");
-        Set<String> found = new TreeSet<>();
-        for (Method m : RiceAdapt.class.getMethods()) {
-            found.add(m.toString());
+        Due.sentence("The public face: public int k, codeLen, update and cell");
+        hasMethod("k", int.class);
+        hasMethod("codeLen", int.class, int.class);
+        hasMethod("update", int.class, int.class);
+        hasMethod("cell", int.class);
+    }
+
+    private static void hasMethod(String name, Class<?>... parameters) {
+        boolean found = false;
+        for (Method one : RiceAdapt.class.getMethods()) {
+            boolean named = one.getName().equals(name) && Arrays.equals(one.getParameterTypes(), parameters);
+            found |= named && one.getReturnType() == int.class && !Modifier.isStatic(one.getModifiers());
         }
-        Set<String> due = Set.of(
-            "public int RiceAdapt.k(int)",
-            "public int RiceAdapt.codeLen(int,int)",
-            "public int RiceAdapt.update(int,int)",
-            "public int RiceAdapt.cell(int)");
-        for (String method : due) {
-            Due.holds(found.contains(method), "the class has %s", method);
-        }
+        Due.holds(found, "the class has public int %s with %d int parameters", name, parameters.length);
     }
 
     private static void noPublicConstants() {

@@ -38,16 +38,21 @@ public final class KTest {
     /** With N = 1 no call reaches another sum than 4: these are all the other states of a context. */
     private static void smallestShift() {
         Due.sentence("the smallest k >= 0 such that (N << k) >= A");
-        for (int a = 0; a <= 65535; a++) {
-            int ctx = a % 4;
-            RiceAdapt x = States.of(ctx, a, 2);
-            for (int n = 2; n <= 8; n++) {
-                int k = x.k(ctx);
-                Due.holds(k >= 0 && (long) n << k >= a, "k = %d reaches A = %d with N = %d", k, a, n);
-                Due.holds(k == 0 || (long) n << (k - 1) < a, "k = %d is the smallest for A = %d, N = %d", k, a, n);
-                if (n < 8) {
-                    x.update(ctx, 0);
-                }
+        for (int ctx = 0; ctx < 4; ctx++) {
+            for (int a = 0; a <= 65535; a++) {
+                smallestShiftFor(ctx, a);
+            }
+        }
+    }
+
+    private static void smallestShiftFor(int ctx, int a) {
+        RiceAdapt x = States.of(ctx, a, 2);
+        for (int n = 2; n <= 8; n++) {
+            int k = x.k(ctx);
+            Due.holds(k >= 0 && (long) n << k >= a, "k = %d reaches A = %d with N = %d", k, a, n);
+            Due.holds(k == 0 || (long) n << (k - 1) < a, "k = %d is the smallest for A = %d, N = %d", k, a, n);
+            if (n < 8) {
+                x.update(ctx, 0);
             }
         }
     }

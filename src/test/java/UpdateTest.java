@@ -146,12 +146,13 @@ public final class UpdateTest {
     /** Updates with m = 0, so that the sum shows the halving alone. */
     private static void countOfEight() {
         Due.sentence("if N equals 8, A is divided by two, rounded down, and N becomes 4");
-        for (int a = 0; a <= 65535; a++) {
-            int ctx = a / 2 % 4;
-            RiceAdapt x = States.of(ctx, a, 8);
-            x.update(ctx, 0);
-            Due.equal(x.cell(ctx), a / 2, "cell(%d) after update(%d, 0) with A = %d, N = 8", ctx, ctx, a);
-            Due.equal(x.cell(ctx + 4), 5, "cell(%d) after update(%d, 0) with A = %d, N = 8", ctx + 4, ctx, a);
+        for (int ctx = 0; ctx < 4; ctx++) {
+            for (int a = 0; a <= 65535; a++) {
+                RiceAdapt x = States.of(ctx, a, 8);
+                x.update(ctx, 0);
+                Due.equal(x.cell(ctx), a / 2, "cell(%d) after update(%d, 0) with A = %d, N = 8", ctx, ctx, a);
+                Due.equal(x.cell(ctx + 4), 5, "cell(%d) after update(%d, 0) with A = %d, N = 8", ctx + 4, ctx, a);
+            }
         }
     }
 
